@@ -714,7 +714,11 @@ public final class PickupYard {
         }
 
         int lengthOfRow(int row) {
-            return lengthOfLast(row, inRow[row]);
+            int together = 0;
+            for (int i = 0; i < inRow[row]; i++) {
+                together += length[rows[row * MOST_WAGONS + i]];
+            }
+            return together;
         }
 
         /** The length of the last wagons of a row together; of all of them if there are not so many. */

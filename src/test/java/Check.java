@@ -17,6 +17,10 @@ final class Check {
         due(what, held ? 1 : 0, 1);
     }
 
+    int wrong() {
+        return wrong;
+    }
+
     /** A call that has to return an answer and to change nothing that can be seen. */
     void changesNothing(PickupYard x, String call, IntSupplier made, int want) {
         String before = seen(x);

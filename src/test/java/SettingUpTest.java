@@ -164,6 +164,11 @@ public final class SettingUpTest {
         c.due("in its last minute", x.count(8), 1);
         x.pass(1);
         c.due("in the minute in which it ends", x.count(8), 0);
+        x.block(7, 1);
+        x.block(20, 5);
+        x.pass(5);
+        c.due("the later one stands from where it was told", x.freeFrom(10), 10);
+        c.due("and up to there", x.freeFrom(11), 25);
         PickupYard y = Check.yard(1, 10);
         y.wagon(0, 1);
         y.block(2, 3);

@@ -167,6 +167,16 @@ public final class TextsTest {
         c.due("carryOut of 80 characters", z.carryOut(), 39);
     }
 
+    private static void ordersThatAnswerNull() {
+        PickupYard x = yard();
+        x.train(Check.list(3), 100);
+        x.train(Check.list(2), 100);
+        Check.write(x, "pA1;qB1;pB1;t1;w5");
+        c.due("carryOut with a push of all and a train in time", x.carryOut(), 5);
+        c.due("the second train has left", x.ofWagon(2, 4), 16);
+        c.due("minute", x.count(0), 21);
+    }
+
     private static void carryOutUpToAnError() {
         PickupYard x = yard();
         Check.write(x, "pA1;w5;pB1;w7");
@@ -203,6 +213,7 @@ public final class TextsTest {
     }
 
     private static void ordersThatFail() {
+        ordersThatAnswerNull();
         String[] texts = {"pA0", "pA31", "pA4", "pB1", "qA0", "qA31", "qA1", "r", "w0", "t0", "t9"};
         for (String text : texts) {
             PickupYard x = yard();

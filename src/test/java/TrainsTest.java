@@ -165,6 +165,22 @@ public final class TrainsTest {
         c.due("minute", x.count(0), 20);
     }
 
+    private static void twoTrainsLeave() {
+        PickupYard x = Check.yard(1, 20);
+        Check.wagons(x, 0, 1, 1, 1);
+        x.train(Check.list(2, 1), 100);
+        x.train(Check.list(0), 100);
+        x.pull(0, 2);
+        x.leave(0);
+        x.pull(0, 1);
+        x.leave(0);
+        c.due("wagons that have left", x.count(5), 3);
+        c.due("trains that have left", x.count(7), 2);
+        c.due("the first one left", x.ofWagon(2, 4), 6);
+        c.due("the second one left", x.ofWagon(1, 4), 6);
+        c.due("the third one left", x.ofWagon(0, 4), 11);
+    }
+
     private static void afterLeaving() {
         PickupYard x = Check.yard(1, 4);
         Check.wagons(x, 0, 2, 2);
@@ -174,6 +190,7 @@ public final class TrainsTest {
         c.changesNothing(x, "train of a wagon that has left", () -> x.train(Check.list(1), 200), -2);
         c.changesNothing(x, "train of one that is there and one that has left", () -> x.train(Check.list(0, 1), 200), -2);
         c.due("room on the track", x.wagon(0, 2), 2);
+        twoTrainsLeave();
         c.due("wagons so far", x.count(2), 3);
     }
 }

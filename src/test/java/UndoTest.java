@@ -14,6 +14,7 @@ public final class UndoTest {
         save();
         restore();
         slotsAreOfTheirOwn();
+        listsAndMinutesComeBack();
         c.end("UndoTest");
     }
 
@@ -76,6 +77,21 @@ public final class UndoTest {
         c.due("undo", x.undo(), 0);
         c.due("undo of none", x.undo(), -5);
         undoneIsForgotten();
+        refusedCallsTouchNoState();
+    }
+
+    private static void refusedCallsTouchNoState() {
+        PickupYard x = new PickupYard();
+        for (int i = 0; i < 9; i++) {
+            x.pass(1);
+            x.pass(0);
+            x.pull(0, 1);
+        }
+        for (int i = 5; i >= 0; i--) {
+            c.due("undo", x.undo(), i);
+            x.pass(0);
+            c.due("minute", x.count(0), 3 + i);
+        }
     }
 
     private static void undoneIsForgotten() {
@@ -152,6 +168,32 @@ public final class UndoTest {
         c.due("restoring what is there is a change", x.restore(1), minute);
         c.due("undo", x.undo(), 5);
         c.due("minute", x.count(0), minute);
+    }
+
+    private static void listsAndMinutesComeBack() {
+        PickupYard x = Check.yard(1, 60);
+        for (int i = 0; i < 16; i++) {
+            x.wagon(0, 1);
+        }
+        for (int i = 0; i < 8; i++) {
+            x.train(Check.list(15 - 2 * i, 14 - 2 * i), 10 + i);
+        }
+        x.pull(0, 2);
+        x.save(0);
+        x.leave(0);
+        x.save(1);
+        String gone = Check.seenButFor13And14(x);
+        x.restore(0);
+        x.pass(9);
+        x.leave(0);
+        for (int i = 0; i < 7; i++) {
+            x.strike(0);
+        }
+        for (int i = 0; i < 8; i++) {
+            x.train(Check.list(i), 200 + i);
+        }
+        x.restore(1);
+        c.holds("lists and the minutes in which wagons left", gone.equals(Check.seenButFor13And14(x)));
     }
 
     private static void slotsAreOfTheirOwn() {

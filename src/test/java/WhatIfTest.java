@@ -93,6 +93,12 @@ public final class WhatIfTest {
         got("below another", waiting(1), -6, -6);
         got("in the other order", waiting(1, 2), -6, -6);
         got("with one left out", waiting(2, 0), -6, -6);
+        PickupYard x = Check.yard(8, 20);
+        for (int i = 0; i < 8; i++) {
+            x.wagon(i, 1);
+        }
+        x.train(Check.list(7, 6, 5, 4, 3, 2, 1, 0), 100);
+        got("eight from eight tracks", x, 8, 40);
         got("the last one is below another", waiting(2, 1, 5, 3), -6, -6);
     }
 
@@ -177,6 +183,9 @@ public final class WhatIfTest {
         PickupYard y = waiting(1);
         y.pull(0, 1);
         moves("a push and a pull", y, 0, 2);
+        PickupYard v = waiting(0, 2, 1);
+        v.pull(0, 3);
+        moves("the first one turned is right, the others are not", v, 0, -6);
         PickupYard z = waiting(2);
         z.pull(0, 1);
         z.pull(1, 1);
@@ -277,5 +286,11 @@ public final class WhatIfTest {
         c.changesNothing(x, "wagons at the engine are not asked", () -> x.buried(), 1);
         x.pull(1, 2);
         c.changesNothing(x, "none", () -> x.buried(), 0);
+        PickupYard y = Check.yard(8, 60);
+        Check.wagons(y, 0, 1, 1);
+        y.train(Check.list(0), 100);
+        c.due("in a yard of eight tracks", y.buried(), 1);
+        y.pull(0, 2);
+        c.due("at the engine, with eight tracks", y.buried(), 0);
     }
 }
