@@ -21,6 +21,10 @@ final class Check {
         return wrong;
     }
 
+    int calls() {
+        return calls;
+    }
+
     /** A call that has to return an answer and to change nothing that can be seen. */
     void changesNothing(PickupYard x, String call, IntSupplier made, int want) {
         String before = seen(x);
@@ -35,7 +39,7 @@ final class Check {
         due(call + ", then count(14)", x.count(14), Math.min(6, before + 1));
     }
 
-    /** All numbers that can be asked for, but for the what ifs. */
+    /** All numbers that can be asked for. */
     static String seen(PickupYard x) {
         return seenButFor13And14(x) + " " + x.count(13) + " " + x.count(14) + " " + x.fault();
     }
@@ -66,7 +70,10 @@ final class Check {
             for (int what = 0; what <= 10; what++) {
                 all.append(x.ofTrain(train, what)).append(' ');
             }
+            all.append(x.straight(train)).append(' ').append(x.pulls(train)).append(' ');
+            all.append(x.wouldLeave(train)).append(' ').append(x.moves(train)).append(' ');
         }
+        all.append(x.roomFor()).append(' ').append(x.buried()).append(' ');
         for (int minutes = 1; minutes <= 500; minutes += 7) {
             all.append(x.freeFrom(minutes)).append(' ');
         }
