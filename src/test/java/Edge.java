@@ -130,7 +130,7 @@ final class Edge {
         Check.wagons(x, 0, 2, 2, 3, 1, 1);
         Check.wagons(x, 1, 2, 1, 2);
         x.train(Check.list(4), 3);
-        x.train(Check.list(3, 7), 60);
+        x.train(Check.list(3, 7), 22);
         x.train(Check.list(0, 6), 70);
         x.pull(0, 1);
         x.leave(0);

@@ -10,6 +10,7 @@ public final class EdgesOfMovesTest {
         rows();
         together();
         pullMeans();
+        intoTheTrackWithAll();
         pullCouples();
         neck();
         pushMeans();
@@ -165,6 +166,19 @@ public final class EdgesOfMovesTest {
             e.due("behind that one", x.at(NONE, many + 1), 5);
             e.due("pull of one too many", x.pull(0, 6 - many), NOT_POSSIBLE);
         }
+    }
+
+    private static void intoTheTrackWithAll() {
+        e.says("the engine goes into the track with all its wagons: they need not fit there");
+        PickupYard x = pulled(4, 58, 1);
+        e.due("pull of a wagon of 1 behind 15 wagons out of a track of 4", x.pull(2, 1), 16);
+        e.due("their lengths", x.count(4), 59);
+        e.due("push of it into the track", x.push(2, 1), 15);
+        e.due("wagons on it", x.ofTrack(2, 1), 1);
+        e.due("push of a wagon of 4 into it", x.push(2, 1), NOT_POSSIBLE);
+        e.due("pull of the one that is there", x.pull(2, 1), 16);
+        e.due("push of two", x.push(2, 2), NOT_POSSIBLE);
+        e.due("push of one", x.push(2, 1), 15);
     }
 
     private static void pullCouples() {

@@ -312,6 +312,9 @@ public final class EdgesOfPromises18To31Test {
         moves("pull, pull", waiting(9, 12), 2);
         moves("pull, round", waiting(8, 9), 2);
         moves("pull of eight, round", waiting(2, 3, 4, 5, 6, 7, 8, 9), 2);
+        moves("pull of all of a track, round", waiting(10, 11, 12), 2);
+        moves("pull of all of a track, pull", waiting(12, 11, 10, 9), 2);
+        moves("pull, pull of all of a track", waiting(9, 12, 11, 10), 2);
         moves("push, pull", pulled(2, 9, 12), 2);
         moves("push of all, pull", pulled(1, 12), 2);
         moves("push, round", pulled(3, 8, 9), 2);
@@ -603,8 +606,9 @@ public final class EdgesOfPromises18To31Test {
         e.due("carryOut(), the last one fails", z.carryOut(), 1);
         e.due("count(0)", z.count(0), 73);
         e.says("Promise 28: an order that answers 0 is no error");
-        PickupYard w = padOf("t0;w1");
-        e.due("a train that is in time", w.carryOut(), 2);
+        PickupYard w = waiting(9);
+        Check.write(w, "pA1;t0;w1");
+        e.due("a train that is in time", w.carryOut(), 3);
         PickupYard v = padOf("qC2;w1");
         e.due("a push of all", v.carryOut(), 2);
     }
@@ -843,6 +847,23 @@ public final class EdgesOfPromises18To31Test {
             e.due("restore(" + slot + ") at last", x.restore(slot), 23);
             e.holds("all is as it was", Check.seenButFor13And14(x).equals(Check.seenButFor13And14(y)));
         }
+        e.says("Promise 31: a wagon that has left is as it was saved, also if it has left in another minute since");
+        PickupYard left = waiting(9);
+        left.pull(0, 1);
+        left.save(0);
+        left.leave(0);
+        left.save(1);
+        left.restore(0);
+        left.pass(200);
+        e.due("leave(0), later", left.leave(0), 106);
+        e.due("ofWagon(9, 4)", left.ofWagon(9, 4), 206);
+        e.due("count(12)", left.count(12), 106 * 20);
+        left.restore(1);
+        e.due("ofWagon(9, 4)", left.ofWagon(9, 4), 6);
+        e.due("count(12)", left.count(12), 0);
+        left.undo();
+        e.due("ofWagon(9, 4)", left.ofWagon(9, 4), 206);
+        e.due("count(12)", left.count(12), 106 * 20);
         e.says("Promise 31: a slot that was saved in minute 0");
         PickupYard x = new PickupYard();
         x.save(1);

@@ -385,7 +385,7 @@ public final class EdgesOfPromises1To17Test {
         }
         e.refuses("leave(8), full", FULL, x -> x.leave(8), NO_SUCH);
         e.says("Promise 12: NOT_POSSIBLE if the wagons at the engine are not those of its list, in its order");
-        e.due("leave(0)", Edge.busy().leave(0), 0);
+        e.due("leave(0)", Edge.busy().leave(0), 1);
         e.refuses("leave(1)", BUSY, x -> x.leave(1), NOT_POSSIBLE);
         e.refuses("leave(0) turned", () -> {
             PickupYard x = Edge.busy();
@@ -422,6 +422,13 @@ public final class EdgesOfPromises1To17Test {
         int[] filled = {60, 30, 60, 0, 30};
         for (int what = 0; what <= 4; what++) {
             e.due("filled: ofTrack(1, " + what + ")", x.ofTrack(1, what), filled[what]);
+        }
+        for (int i = 1; i <= 9; i++) {
+            x.pull(1, 3);
+            e.due("3 wagons more came out", x.ofTrack(1, 3), 3 * i);
+            x.push(1, 2);
+            x.push(1, 1);
+            e.due("3 wagons more were pushed in", x.ofTrack(1, 4), 30 + 3 * i);
         }
     }
 
@@ -524,6 +531,14 @@ public final class EdgesOfPromises1To17Test {
         e.range("count(what)", BUSY, (x, what) -> x.count(what), 0, 20, BAD_VALUE);
         e.range("count(what)", FULL, (x, what) -> x.count(what), 0, 20, BAD_VALUE);
         e.says("Promise 17: a number about the yard, when nothing is there, some, and all");
+        PickupYard left = withAll();
+        for (int i = 1; i <= 10; i++) {
+            left.train(Check.list(left.at(0, 0), left.at(0, 1)), 500);
+            left.pull(0, 2);
+            left.leave(0);
+            e.due("count(5), wagons that have left", left.count(5), 2 * i);
+            e.due("count(7), trains that have left", left.count(7), i);
+        }
         int[] fresh = {0, 0, 0, 0, 0, 0, 0, 0, 0, 0, 0, 0, 0, 0, 0, 16, 12, 4, 1, 9, 20};
         int[] busy = {23, 3, 8, 2, 3, 1, 2, 1, 1, 6, 3, 2, 60, 6, 6, 16, 12, 4, 1, 9, 25};
         int[] full = {5, 8, 30, 15, 60, 0, 8, 0, 10, 1, 1, 0, 0, 80, 6, 60, 12, 4, 1, 9, 20};
