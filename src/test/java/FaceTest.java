@@ -7,14 +7,11 @@ import java.lang.reflect.Method;
 import java.lang.reflect.Modifier;
 import java.nio.file.Files;
 import java.nio.file.Path;
-import java.util.List;
 import java.util.Set;
 import java.util.TreeSet;
-import java.util.regex.Matcher;
-import java.util.regex.Pattern;
 
-/** What of LANGUAGE.md and of the document's face can be looked at from outside; started in the project's folder. */
-public final class LanguageTest {
+/** The face of the document, and what a call makes; RulesTest has the rules of the source. Started in the project's folder. */
+public final class FaceTest {
     private static final Check c = new Check();
 
     private static final Set<String> FACE = Set.of(
@@ -33,10 +30,9 @@ public final class LanguageTest {
         face();
         constants();
         classesInside();
-        words();
-        lengthsOfMethods();
+        signs();
         callsMakeNoObjects();
-        c.end("LanguageTest");
+        c.end("FaceTest");
     }
 
     private static String signature(Method method) {
@@ -80,7 +76,6 @@ public final class LanguageTest {
 
     private static void classesInside() {
         Class<?>[] inside = PickupYard.class.getDeclaredClasses();
-        c.holds("at most twelve classes", inside.length < 12);
         aClass(PickupYard.class);
         for (Class<?> one : inside) {
             c.holds(one + " is static and not public", Modifier.isStatic(one.getModifiers())
@@ -91,50 +86,15 @@ public final class LanguageTest {
     }
 
     private static void aClass(Class<?> one) {
-        int fields = 0;
-        for (Field field : one.getDeclaredFields()) {
-            fields += Modifier.isStatic(field.getModifiers()) ? 0 : 1;
-            c.holds(field + " is final if it is static",
-                !Modifier.isStatic(field.getModifiers()) || Modifier.isFinal(field.getModifiers()));
-        }
-        c.holds(one + " has at most twenty fields", fields <= 20);
         for (Method method : one.getDeclaredMethods()) {
-            c.holds(method + " has at most seven parameters", method.getParameterCount() <= 7);
             boolean ofTheFace = FACE.stream().anyMatch(name -> name.startsWith(method.getName() + "("));
             c.holds(method + " bears no name of a public one", ofTheFace == Modifier.isPublic(method.getModifiers()));
         }
     }
 
-    private static String source() throws IOException {
-        return Files.readString(Path.of("src/main/java/PickupYard.java"));
-    }
-
-    private static void words() throws IOException {
-        String text = source();
+    private static void signs() throws IOException {
+        String text = Files.readString(Path.of("src/main/java/PickupYard.java"));
         c.holds("signs are 1 to 127", text.chars().allMatch(sign -> sign > 0 && sign < 128));
-        String code = text.replaceAll("(?s)/\\*.*?\\*/", "").replaceAll("//[^\n]*", "");
-        for (String word : List.of("throw", "throws", "try", "catch", "synchronized", "assert", "instanceof", "import",
-                "package", "enum", "float", "double", "System.nanoTime", "System.currentTimeMillis", "Thread", "random",
-                "equals", "hashCode", "toString", "volatile", "native", "strictfp", "var")) {
-            c.holds("no word " + word, !Pattern.compile("\\b" + Pattern.quote(word) + "\\b").matcher(code).find());
-        }
-        for (String sign : List.of("->", "::", "\"", "Exact(", "@")) {
-            c.holds("no sign " + sign, !code.contains(sign));
-        }
-        c.holds("no static initialiser", !Pattern.compile("\\bstatic\\s*\\{").matcher(code).find());
-        c.holds("no while without a counter", !Pattern.compile("\\bwhile\\b").matcher(code).find());
-    }
-
-    /** The source is indented by 4: a method begins at 4 or 8 blanks, and ends with a brace at the same ones. */
-    private static void lengthsOfMethods() throws IOException {
-        Matcher method = Pattern.compile("(?m)^( {4}| {8})(?!.*\\bclass\\b)[^ /*].*\\) \\{\n((?:.*\n)*?)\\1\\}$").matcher(source());
-        int found = 0;
-        while (method.find()) {
-            found++;
-            long lines = method.group(2).lines().count();
-            c.holds("a method of " + lines + " lines: " + method.group().lines().findFirst().get(), lines <= 60);
-        }
-        c.holds("methods were found", found > 80);
     }
 
     private static void callsMakeNoObjects() {
